@@ -220,6 +220,7 @@ public final class PromiseTest {
         due("9: countWith(3, 0)", x.countWith(3, 0), 0);
         due("9: countWith(255, 1)", x.countWith(255, 1), 1);
         due("9: countWith(255, 4)", x.countWith(255, 4), 0);
+        due("9: countWith(255, 0)", with().countWith(255, 0), 1);
         due("9: countWith(255, 255)", with().countWith(255, 255), 1);
         due("9: countWith(256, 0)", x.countWith(256, 0), BAD_ARG);
         due("9: countWith(0, 256)", x.countWith(0, 256), BAD_ARG);
@@ -348,6 +349,7 @@ public final class PromiseTest {
         due("16: two", with(c(0), c(14)).alwaysTrue(), 129);
         due("16: false ones are not in it", with(c(1), c(14)).alwaysTrue(), 128);
         due("16: by consequence", with(c(0), c(1, 4), c(5, 8)).alwaysTrue(), 21);
+        due("16: all false", with(c(1), c(3), c(5), c(7), c(9), c(11), c(13), c(15)).alwaysTrue(), 0);
         due("16: all", with(c(0), c(2), c(4), c(6), c(8), c(10), c(12), c(14)).alwaysTrue(), 255);
     }
 
@@ -357,6 +359,7 @@ public final class PromiseTest {
         due("17: two", with(c(1), c(15)).alwaysFalse(), 129);
         due("17: true ones are not in it", with(c(0), c(15)).alwaysFalse(), 128);
         due("17: by consequence", with(c(1), c(0, 5), c(4, 9)).alwaysFalse(), 21);
+        due("17: all true", with(c(0), c(2), c(4), c(6), c(8), c(10), c(12), c(14)).alwaysFalse(), 0);
         due("17: all", with(c(1), c(3), c(5), c(7), c(9), c(11), c(13), c(15)).alwaysFalse(), 255);
     }
 
@@ -368,6 +371,7 @@ public final class PromiseTest {
         due("18: a clause of three", with(c(2, 5, 8)).idle(), 255 - 22);
         due("18: in a clause that is always true", with(c(2, 3, 8)).idle(), 255);
         due("18: in clauses that together leave it free", with(c(0, 2), c(1, 2)).idle(), 253);
+        due("18: one model, all false", with(c(1), c(3), c(5), c(7), c(9), c(11), c(13), c(15)).idle(), 0);
         due("18: one model", with(c(0), c(2), c(4), c(6), c(8), c(10), c(12), c(14)).idle(), 0);
     }
 
