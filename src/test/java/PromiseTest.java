@@ -43,6 +43,22 @@ public final class PromiseTest {
         due("NONE", ModelCounter.NONE, NONE);
     }
 
+    /** The run of calls that README.md shows. */
+    private static void readme() {
+        ModelCounter x = new ModelCounter();
+        due("README: literal(0)", x.literal(0), 1);
+        due("README: literal(3)", x.literal(3), 2);
+        due("README: clause()", x.clause(), 0);
+        due("README: count()", x.count(), 192);
+        due("README: model(0)", x.model(0), 0);
+        due("README: rank(128)", x.rank(128), 96);
+        due("README: countWith(1, 1)", x.countWith(1, 1), 128);
+        due("README: idle()", x.idle(), 252);
+        due("README: weight(0, 1, 5)", x.weight(0, 1, 5), 1);
+        due("README: weighted()", x.weighted(), 704);
+        due("README: unclause()", x.unclause(), 0);
+    }
+
     private static void promise1NewObject() {
         ModelCounter x = new ModelCounter();
         due("1: clauses()", x.clauses(), 0);
@@ -386,6 +402,7 @@ public final class PromiseTest {
 
     public static void main(String[] args) {
         constants();
+        readme();
         promise1NewObject();
         promise2Literal();
         promise3Scrap();

@@ -230,18 +230,31 @@ public final class RunsTest {
         return 0;
     }
 
+    /** Every fourth run keeps near to one assignment, so that few models are left and yet one is. */
+    private static boolean isNarrow(int run) {
+        return run % 4 == 3;
+    }
+
+    private static int anyLiteral(int run, Numbers numbers) {
+        if (!isNarrow(run) || numbers.below(10) == 0) {
+            return near(numbers, 0, 15);
+        }
+        int v = numbers.below(8);
+        return Words.truths(37 * run % 256)[v] ? 2 * v : 2 * v + 1;
+    }
+
     private static void change(int run, int call, Numbers numbers, ModelCounter x, Words y) {
         int kind = numbers.below(20);
-        if (kind < 10) {
-            int l = near(numbers, 0, 15);
+        if (kind < (isNarrow(run) ? 6 : 10)) {
+            int l = anyLiteral(run, numbers);
             due(run, call, "literal(" + l + ")", x.literal(l), y.literal(l));
-        } else if (kind < 11) {
-            due(run, call, "scrap()", scrapped(x), y.scrap());
-        } else if (kind < 14) {
+        } else if (kind < 13) {
             // An empty clause ends all models, so most runs pass it by.
-            if (!y.draft.isEmpty() || numbers.below(8) == 0) {
+            if (!y.draft.isEmpty() || numbers.below(isNarrow(run) ? 100 : 10) == 0) {
                 due(run, call, "clause()", x.clause(), y.clause());
             }
+        } else if (kind < 14) {
+            due(run, call, "scrap()", scrapped(x), y.scrap());
         } else if (kind < 16) {
             // Runs of odd number seldom remove, so that they reach 14 clauses.
             if (run % 2 == 0 || numbers.below(8) == 0) {
